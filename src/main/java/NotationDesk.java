@@ -909,6 +909,7 @@ public final class NotationDesk {
       octetCount = 0;
     }
 
+    /** Takes over what the desk tells of a value; what writers use stays behind. */
     void copyOf(Value other) {
       count = other.count;
       octetCount = other.octetCount;
@@ -917,7 +918,6 @@ public final class NotationDesk {
       System.arraycopy(other.place, 0, place, 0, count);
       System.arraycopy(other.parent, 0, parent, 0, count);
       System.arraycopy(other.firstOctet, 0, firstOctet, 0, count);
-      System.arraycopy(other.shown, 0, shown, 0, count);
       System.arraycopy(other.octets, 0, octets, 0, octetCount);
     }
 

@@ -37,14 +37,16 @@ public final class NotationDeskPromises {
   private static void putAll(NotationDesk d, String hex) {
     d.wipe();
     String digits = hex.replace(" ", "");
-    for (int i = 0; i < digits.length(); i += 2) {
-      due("put", d.put(Integer.parseInt(digits.substring(i, i + 2), 16), 1), true);
+    for (int i = 0; i < digits.length(); i += 16) {
+      String some = digits.substring(i, Math.min(i + 16, digits.length()));
+      due("put", d.put(Long.parseUnsignedLong(some, 16), some.length() / 2), true);
     }
   }
 
   private static String bytes(NotationDesk d) {
     StringBuilder s = new StringBuilder();
-    for (int i = 0; i < d.at(-1); i++) {
+    int count = d.at(-1);
+    for (int i = 0; i < count; i++) {
       s.append(i == 0 ? "" : " ").append(String.format("%02x", d.at(i)));
     }
     return s.toString();
@@ -101,7 +103,8 @@ public final class NotationDeskPromises {
 
   private static String allParts(NotationDesk d) {
     StringBuilder s = new StringBuilder();
-    for (int k = 0; k < d.parts(); k++) {
+    int count = d.parts();
+    for (int k = 0; k < count; k++) {
       s.append(k == 0 ? "" : " ").append(d.part(k, 0)).append('/').append(d.part(k, 1));
       s.append('/').append(d.part(k, 2)).append('/').append(d.part(k, 3));
     }
@@ -252,6 +255,35 @@ public final class NotationDeskPromises {
     due("the text stays", d.clear(), 5);
   }
 
+  /** Nothing of an older module is left in a newer one. */
+  private static void compileAnother() {
+    String[][] rows = {
+      // the older text, the newer one, bytes, their rules, what becomes of them by rules 2
+      {"A=i(0,3);", "A=i;", "02 01 64", "0", "01 64"},
+      {"A=i;", "A=i(0,3);", "02 01 64", "0", "-1"},
+      {"A=q{b?};", "A=q{b};", "30 00", "0", "-1"},
+      {"A=q{b=1};", "A=q{b};", "30 03 01 01 ff", "1", "80"},
+      {"A=q{b,b};", "A=q{};", "30 00", "0", "00"},
+      {"A=c{i,b};", "A=c{i,b};", "02 01 05", "0", "80 01 05"},
+      {"A=c{b,i,n,o,q{}};", "A=c{b,i};", "02 01 05", "0", "80 01 05"},
+      {"A=c{n,b};", "A=q{n,b};", "30 05 05 00 01 01 ff", "0", "80"},
+      {"A=lllb;", "A=b;B=lllllA;", "01 01 ff", "0", "80"},
+      {"A=[1]b;", "A=[2!]b;", "82 01 ff", "0", "80"},
+      {"A=[1]c{b};", "A=[2!]c{b};", "a2 03 01 01 ff", "0", "80"},
+    };
+    for (String[] row : rows) {
+      NotationDesk d = desk(row[0]);
+      due("clear", d.clear(), row[0].length());
+      typeAll(d, row[1]);
+      for (int n = 0; n < 2; n++) {
+        due("compile " + row[1] + " behind " + row[0], d.compile(), 0);
+      }
+      putAll(d, row[2]);
+      String answer = transcode(d, 'A', Integer.parseInt(row[3]), 2);
+      due(row[1] + " behind " + row[0], answer.equals("-1") ? answer : bytes(d), row[4]);
+    }
+  }
+
   private static void charactersAtFault() {
     fault("", 1, 0);
     fault("a", 1, 0);
@@ -267,6 +299,7 @@ public final class NotationDeskPromises {
     fault("A=n?;", 1, 3);
     fault("A=b;B=A(0,1);", 1, 7);
     fault("A=[;", 1, 3);
+    fault("A=[B=b;", 1, 3);
     fault("A=[10]b;", 1, 4);
     fault("A=[1!!]b;", 1, 5);
     fault("A=[!1]b;", 1, 3);
@@ -286,6 +319,12 @@ public final class NotationDeskPromises {
     fault("A=c{b=1};", 1, 5);
     fault("A=l;", 1, 3);
     fault("A=l(0,1);", 1, 8);
+    fault("A=i(B=b;", 1, 4);
+    fault("A=q{i(?,x};", 1, 6);
+    fault("A=q{i(1?,x};", 1, 7);
+    fault("A=q{q,x};", 1, 5);
+    fault("A=q{q{b=1?,x}};", 1, 9);
+    fault("A=q{b=,x};", 1, 6);
     fault("A=i();", 1, 4);
     fault("A=i(1);", 1, 5);
     fault("A=i(1,);", 1, 6);
@@ -341,6 +380,8 @@ public final class NotationDeskPromises {
 
     fine("A=lllllb;");
     fault("A=llllllb;", 5, 8);
+    fine("A=llllb;B=lA;");
+    fault("A=lllllb;B=lA;", 5, 12);
     fine("A=lllllq{};");
     fault("A=lllllq{b};", 5, 9);
     fault("A=llllllx;", 1, 8);
@@ -473,6 +514,76 @@ public final class NotationDeskPromises {
     due("120 bytes", transcode(edge, 'A', 2, 1), "120");
   }
 
+  private static void transcodeTooLongPacked() {
+    // 24 items of three bytes, which are two bytes of choices and two of a number by the packed rules.
+    NotationDesk d = desk("A=q{o,lc{c{c{i(0,65535),b,o,n,q{}},[0]b,[1]b,[2]b,[3]b},[4]b,[5]b,[6]b,[7]b}};");
+    String strict = "30 76 04 2a " + "07 ".repeat(42) + "30 48 " + times(24, "02 01 09 ");
+    putAll(d, strict);
+    due("140 bytes", transcode(d, 'A', 1, 2), "UnsupportedOperationException");
+    due("bytes", bytes(d), strict);
+    due("parts", d.parts(), 0);
+    putAll(d, "30 07 04 00 30 03 02 01 09");
+    due("6 bytes", transcode(d, 'A', 1, 2), "6");
+    due("bytes", bytes(d), "00 01 00 80 00 09");
+    due("parts", allParts(d), "6/2/0/-1 4/0/0/0 7/1/1/0 9/0/0/2 9/0/0/3 9/0/0/4 2/9/0/5");
+  }
+
+  /** What stood in the buffer before its bytes were wiped, or behind its last byte, is never read. */
+  private static void bytesBeyond() {
+    NotationDesk d = desk("A=c{n,q{},i,o,[0]lb};B=q{b,i(0,255),o};");
+    String[] rows = {"05 00", "30 80 00 00", "02 01 05", "04 02 01 02", "a0 80 30 80 00 00 00 00"};
+    for (String row : rows) {
+      for (int end = 2; end < row.length(); end += 3) {
+        putAll(d, row);
+        putAll(d, row.substring(0, end));
+        due("a part of " + row, transcode(d, 'A', 0, 1), "-1");
+      }
+    }
+    NotationDesk full = desk("A=o;B=lo;C=q{b,lb};D=li;");
+    putAll(full, "04 7f" + " 00".repeat(118));
+    due("more than there are", transcode(full, 'A', 0, 1), "-1");
+    putAll(full, "04 82 ff ff" + " 00".repeat(116));
+    due("more than there are", transcode(full, 'A', 0, 1), "-1");
+    putAll(full, "30 76 04 75" + " 00".repeat(116));
+    due("more than there are", transcode(full, 'B', 0, 1), "-1");
+    putAll(full, "78" + " 00".repeat(119));
+    due("more than there are", transcode(full, 'A', 2, 1), "-1");
+    putAll(full, "3c" + " 01 00".repeat(59) + " 01");
+    due("more than there are", transcode(full, 'D', 2, 1), "-1");
+    putAll(full, "30 76 " + times(59, "04 00 "));
+    due("as many as there are", transcode(full, 'B', 0, 2), "60");
+  }
+
+  private static void integersOfAllLengths() {
+    int[] edges = {0, 1, 63, 64, 127, 128, 255, 256, 16383, 16384, 32767, 32768, 65535, 65536, 4194304, 8388607,
+        8388608, 16777215, 16777216, 1073741824, Integer.MAX_VALUE};
+    for (int edge : edges) {
+      for (int n : new int[] {edge, -edge, -edge - 1}) {
+        byte[] row = java.math.BigInteger.valueOf(n).toByteArray();
+        StringBuilder s = new StringBuilder();
+        for (byte b : row) {
+          s.append(String.format(" %02x", b));
+        }
+        same("A=i;", "02 0" + row.length + s, "0" + row.length + s);
+        NotationDesk d = desk("A=i;");
+        putAll(d, "02 0" + row.length + s);
+        due("transcode", transcode(d, 'A', 1, 2), String.valueOf(row.length + 1));
+        due("its number", part(d, 0, 1), String.valueOf(n));
+      }
+    }
+  }
+
+  private static void deepestTypes() {
+    same("A=[1!][2!][3!][4!][5!]b;", "81 01 ff", "80");
+    same("A=[1][2][3][4][5]b;", "a1 0b a2 09 a3 07 a4 05 a5 03 01 01 ff", "80");
+    same("A=[0][9!][8][7!]lb;", "a0 04 a9 02 a7 00", "00");
+    same("A=[0][9!][8][7!][6]b;", "a0 07 a9 05 a7 03 01 01 ff", "80");
+    same("A=lllllb;", "30 0b 30 09 30 07 30 05 30 03 01 01 ff", "01 01 01 01 01 80");
+    same("A=q{q{q{q{q{b}}}}};", "30 0b 30 09 30 07 30 05 30 03 01 01 ff", "80");
+    same("A=c{c{c{c{c{b}}}}};", "01 01 ff", "80");
+    same("A=c{[1!]q{c{b,[2!]q{}}},n};", "a1 02 a2 00", "c0");
+  }
+
   private static void openRules() {
     becomes("A=b;", 0, "01 01 01", 1, "01 01 ff");
     becomes("A=b;", 0, "01 81 01 00", 1, "01 01 00");
@@ -578,6 +689,7 @@ public final class NotationDeskPromises {
     same("A=q{b,l(0,20)b};", "30 0b 01 01 ff 30 06 01 01 ff 01 01 00", "8a");
     same("A=q{b,l(2,2)b};", "30 0b 01 01 00 30 06 01 01 ff 01 01 00", "40");
     same("A=q{b,lb};", "30 08 01 01 ff 30 03 01 01 ff", "80 01 80");
+    same("A=q{b,l(1,2)b};", "30 0b 01 01 ff 30 06 01 01 ff 01 01 00", "e0");
     same("A=q{b?,i(0,3)=1,n?,o(1,1)};", "30 03 04 01 aa", "15 40");
     same("A=q{b?,i(0,3)=1,n?,o(1,1)};", "30 06 02 01 02 04 01 aa", "55 50");
     same("A=q{b?,i(0,3)=1,n?,o(1,1)};", "30 08 01 01 00 05 00 04 01 aa", "aa a0");
@@ -644,6 +756,12 @@ public final class NotationDeskPromises {
     due("part(0, -1)", part(d, 0, -1), "IllegalArgumentException");
     due("what first", part(d, 99, 4), "IllegalArgumentException");
     due("a part without octets", octet(d, 0, 0), "NoSuchElementException");
+
+    String value = allParts(d);
+    due("by the packed rules", transcode(d, 'A', 1, 2), "7");
+    due("bytes", bytes(d), "20 02 40 01 fe 01 07");
+    due("read from them", transcode(d, 'A', 2, 2), "7");
+    due("all parts", allParts(d), value);
 
     putAll(d, "01 01 09");
     due("no value", transcode(d, 'A', 0, 1), "-1");
@@ -715,6 +833,8 @@ public final class NotationDeskPromises {
     due("empty", served(d, ""), "04 00 01");
     due("one byte", served(d, "01"), "04 00 01");
     due("two bytes", served(d, "01 09"), "04 09 01");
+    due("one byte again", served(d, "01"), "04 00 01");
+    due("none again", served(d, ""), "04 00 01");
     due("another beginning", served(d, "02 09 00 01 01 00"), "04 09 01");
     due("no such operation", served(d, "01 09 01 01 01 00"), "04 09 02");
     due("no such operation", served(d, "01 09 08"), "04 09 02");
@@ -748,6 +868,17 @@ public final class NotationDeskPromises {
     due("bytes", d.at(-1), 119);
   }
 
+  private static void servingWithoutBits() {
+    NotationDesk d = desk("A=n;B=o;");
+    due("operation", operation(d, 0, 'A', 2, 2), "done");
+    due("operation", operation(d, 1, 'A', 0, 2), "done");
+    due("a byte 0", served(d, "01 01 00 00"), "02 01 00 00");
+    due("another byte", served(d, "01 02 00 01"), "03 02");
+    due("two bytes", served(d, "01 03 00 00 00"), "03 03");
+    due("no byte", served(d, "01 04 00"), "03 04");
+    due("to a byte 0", served(d, "01 05 01 05 00"), "02 05 01 00");
+  }
+
   private static void longestReply() {
     NotationDesk d = desk("A=o;");
     due("operation", operation(d, 0, 'A', 2, 1), "done");
@@ -776,12 +907,17 @@ public final class NotationDeskPromises {
       type();
       clear();
       compile();
+      compileAnother();
       charactersAtFault();
       otherFaults();
       putAndWipe();
       at();
       transcodeArguments();
       transcodeTooLong();
+      transcodeTooLongPacked();
+      bytesBeyond();
+      integersOfAllLengths();
+      deepestTypes();
       openRules();
       strictRules();
       packedRules();
@@ -790,6 +926,7 @@ public final class NotationDeskPromises {
       octets();
       operations();
       serving();
+      servingWithoutBits();
       longestReply();
       apart();
     } catch (IndexOutOfBoundsException | NoSuchElementException | IllegalStateException e) {
