@@ -264,7 +264,9 @@ public final class NotationDeskPromises {
       {"A=q{b?};", "A=q{b};", "30 00", "0", "-1"},
       {"A=q{b=1};", "A=q{b};", "30 03 01 01 ff", "1", "80"},
       {"A=q{b,b};", "A=q{};", "30 00", "0", "00"},
+      {"A=q{b,b};", "A=q{b};", "30 03 01 01 ff", "1", "80"},
       {"A=c{i,b};", "A=c{i,b};", "02 01 05", "0", "80 01 05"},
+      {"A=c{i,b};", "A=c{i,b};", "80 01 05", "2", "80 01 05"},
       {"A=c{b,i,n,o,q{}};", "A=c{b,i};", "02 01 05", "0", "80 01 05"},
       {"A=c{n,b};", "A=q{n,b};", "30 05 05 00 01 01 ff", "0", "80"},
       {"A=lllb;", "A=b;B=lllllA;", "01 01 ff", "0", "80"},
@@ -281,6 +283,10 @@ public final class NotationDeskPromises {
       putAll(d, row[2]);
       String answer = transcode(d, 'A', Integer.parseInt(row[3]), 2);
       due(row[1] + " behind " + row[0], answer.equals("-1") ? answer : bytes(d), row[4]);
+    }
+    NotationDesk often = desk(fullText());
+    for (int n = 0; n < 300; n++) {
+      due("compile once more", often.compile(), 0);
     }
   }
 
@@ -689,6 +695,7 @@ public final class NotationDeskPromises {
     same("A=q{b,l(0,20)b};", "30 0b 01 01 ff 30 06 01 01 ff 01 01 00", "8a");
     same("A=q{b,l(2,2)b};", "30 0b 01 01 00 30 06 01 01 ff 01 01 00", "40");
     same("A=q{b,lb};", "30 08 01 01 ff 30 03 01 01 ff", "80 01 80");
+    same("A=l(1,3)b;", "30 03 01 01 ff", "20");
     same("A=q{b,l(1,2)b};", "30 0b 01 01 ff 30 06 01 01 ff 01 01 00", "e0");
     same("A=q{b?,i(0,3)=1,n?,o(1,1)};", "30 03 04 01 aa", "15 40");
     same("A=q{b?,i(0,3)=1,n?,o(1,1)};", "30 06 02 01 02 04 01 aa", "55 50");
@@ -719,6 +726,8 @@ public final class NotationDeskPromises {
     noValue("A=c{b,i,n};", 2, "c0");
     noValue("A=q{b=1};", 2, "c0");
     noValue("A=q{i(0,3)=1};", 2, "a0");
+    noValue("A=q{o(1,1),q{b?}};", 2, "aa");
+    noValue("A=q{o(1,1),b};", 2, "aa");
     noValue("A=o(1,2);", 2, "81 00 00");
     becomes("A=o(1,2);", 2, "80 00 00", 1, "04 02 00 00");
   }
@@ -729,6 +738,10 @@ public final class NotationDeskPromises {
     noValue("A=ln;", 2, "7f");
     noValue("A=l(20,20)l(4,4)n;", 2, "00");
     becomes("A=l(20,20)l(3,3)n;", 2, "00", 2, "00");
+    // The default of the last item is the part that is too many.
+    noValue("A=lq{b=0};", 2, "32 00 00 00 00 00 00 00");
+    noValue("A=lq{b=0};", 0, "30 64 " + times(50, "30 00 "));
+    becomes("A=lq{b=0};", 0, "30 62 " + times(49, "30 00 "), 2, "31 00 00 00 00 00 00 00");
     // Each item has three parts, two of them by default.
     NotationDesk d = desk("A=lq{b=0,i=1};");
     putAll(d, "30 42 " + times(33, "30 00 "));
