@@ -1086,6 +1086,7 @@ public final class NotationDeskBoundaries {
     none(text, 2, "4d 50", "15 41", "15", "15 40 00");
     none("A=q{o(1,1),q{b?}};", 2, "aa");
     none("A=q{o(1,1),q{b=1}};", 2, "aa");
+    none("A=q{o(1,1),q{n?}};", 2, "aa");
     none("A=q{b=1};", 2, "c0");
     none("A=q{b=0};", 2, "80");
     none("A=q{i=5};", 2, "80 01 05");
