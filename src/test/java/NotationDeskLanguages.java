@@ -7,8 +7,9 @@ import java.util.TreeSet;
 
 /**
  * Which bytes are a value's, and which value's. Nothing is read here: for each type all bytes of all its values, up
- * to a length, are made by the document's rules; then the desk is asked for these, for all short rows of bytes, and
- * for all rows that differ in one place from a value's. What was not made has to be no value's.
+ * to a length, are made by the document's rules (open contents of an alphabet's bytes alone); then the desk is asked
+ * for these, for all short rows, and for rows that differ in one place from a value's: where there are very many
+ * values, from some. What was not made has to be no value's.
  */
 public final class NotationDeskLanguages {
   private static final int CALL_LIMIT = 512;
@@ -895,7 +896,7 @@ public final class NotationDeskLanguages {
       }
     }
 
-    /** All of the language, and all that differ in one place and are not too long to have been made. */
+    /** All of the language, and what differs in one place from it, or from some of it, and is not too long. */
     private void askNear(int[] alphabet, int limit, int from) {
       TreeSet<String> rows = new TreeSet<>(languages.get(from).keySet());
       int every = 1 + rows.size() * alphabet.length / 4000;
